@@ -112,7 +112,7 @@ public final class SkyMargins {
     private final Shelf[] images = {new Shelf(), new Shelf()};
     private final boolean[] imageKept = new boolean[IMAGES];
     private final Tape tape = new Tape();
-    private final Parser parser = new Parser();
+    private final Parser parser = new Parser(tape);
     private final Asker asker = new Asker();
     private final Readings readings = new Readings();
     private final Stemma stemma = new Stemma();
@@ -281,7 +281,7 @@ public final class SkyMargins {
             tape.shorten(0);
             return refuse(NO_ROOM);
         }
-        Text text = parser.compile(tape);
+        Text text = parser.compile();
         latestFault = parser.faultPlace();
         tape.shorten(0);
         if (text == null) {
@@ -446,7 +446,8 @@ public final class SkyMargins {
         if (what < 2) {
             return what == 0 ? now.firstYear(copy) : now.lastYear(copy);
         }
-        return what == 2 ? firstYearByTree(copy) : lastYearByTree(copy);
+        Stemma tree = freshStemma();
+        return what == 2 ? firstYearByTree(tree, copy) : lastYearByTree(tree, copy);
     }
 
     public int read(int copy, int chapters) {
@@ -657,8 +658,7 @@ public final class SkyMargins {
                 && now.addNote(copy, place, wording, hand, WRITTEN) != NONE;
     }
 
-    private int firstYearByTree(int copy) {
-        Stemma tree = freshStemma();
+    private int firstYearByTree(Stemma tree, int copy) {
         int first = 0;
         int at = copy;
         for (int step = 0; step < COPIES && at != NONE; step++) {
@@ -668,8 +668,7 @@ public final class SkyMargins {
         return first;
     }
 
-    private int lastYearByTree(int copy) {
-        Stemma tree = freshStemma();
+    private int lastYearByTree(Stemma tree, int copy) {
         int last = now.lastYear(copy);
         for (int other = 0; other < now.copies.size(); other++) {
             if (tree.comesOf(other, copy)) {
@@ -757,7 +756,7 @@ public final class SkyMargins {
         }
 
         int at(int row, int column) {
-            if (!holds(row) || column < 0 || column >= width) {
+            if (row < 0 || row >= rows || column < 0 || column >= width) {
                 return 0;
             }
             return cells[row * width + column];
@@ -1042,8 +1041,8 @@ public final class SkyMargins {
         private static final int CODE_ROOM = 400;
 
         private final int[] codes = new int[CODE_ROOM];
+        private final Tape tape;
         private int length;
-        private Tape tape;
         private int start;
         private int stop;
         private int token;
@@ -1051,13 +1050,16 @@ public final class SkyMargins {
         private int parts;
         private int fault = NONE;
 
+        Parser(Tape tape) {
+            this.tape = tape;
+        }
+
         int faultPlace() {
             return fault;
         }
 
-        /** The text on a tape; null at a fault. */
-        Text compile(Tape source) {
-            tape = source;
+        /** The text on the tape; null at a fault. */
+        Text compile() {
             length = 0;
             stop = 0;
             parts = 0;
@@ -1150,28 +1152,23 @@ public final class SkyMargins {
                 if (!openBracket(depth) || !readTest(depth + 1) || !takeSign(')')) {
                     return false;
                 }
-            } else if (!readComparison(depth)) {
-                return false;
+            } else {
+                if (!readSum(depth)) {
+                    return false;
+                }
+                int code = token == SIGN + '<' ? LESS : token == SIGN + '>' ? MORE : SAME;
+                if (code == SAME && token != SIGN + '=') {
+                    return fail();
+                }
+                advance();
+                if (!readSum(depth)) {
+                    return false;
+                }
+                emit(code);
             }
             if (turned) {
                 emit(TURN);
             }
-            return true;
-        }
-
-        private boolean readComparison(int depth) {
-            if (!readSum(depth)) {
-                return false;
-            }
-            int code = token == SIGN + '<' ? LESS : token == SIGN + '>' ? MORE : SAME;
-            if (code == SAME && token != SIGN + '=') {
-                return fail();
-            }
-            advance();
-            if (!readSum(depth)) {
-                return false;
-            }
-            emit(code);
             return true;
         }
 
@@ -1239,7 +1236,7 @@ public final class SkyMargins {
 
         /** Goes on to the next token. */
         private void advance() {
-            int size = tape == null ? 0 : tape.size();
+            int size = tape.size();
             start = stop;
             while (start < size && tape.byteAt(start) == ' ') {
                 start++;
@@ -1256,20 +1253,16 @@ public final class SkyMargins {
                 }
                 token = wordNumber();
             } else if (isDigit(first)) {
-                takeNumber(size);
+                token = NUMBER;
+                value = 0;
+                while (stop < size && isDigit(tape.byteAt(stop))) {
+                    // One too large is as good as any other one too large.
+                    value = Math.min(value * 10 + tape.byteAt(stop) - '0', MOST_NUMBER + 1);
+                    stop++;
+                }
             } else {
                 stop = start + 1;
                 token = SIGN + first;
-            }
-        }
-
-        private void takeNumber(int size) {
-            token = NUMBER;
-            value = 0;
-            while (stop < size && isDigit(tape.byteAt(stop))) {
-                // One too large is as good as any other one too large.
-                value = Math.min(value * 10 + tape.byteAt(stop) - '0', MOST_NUMBER + 1);
-                stop++;
             }
         }
 
@@ -1281,7 +1274,8 @@ public final class SkyMargins {
             for (int i = 0; i < WORDS.length(); i++) {
                 char letter = WORDS.charAt(i);
                 if (letter != ' ') {
-                    same = same && start + matched < stop && tape.byteAt(start + matched) == letter;
+                    int at = start + matched;
+                    same = same && at >= 0 && at < stop && at < TAPE_BYTES && tape.bytes[at] == letter;
                     matched++;
                 } else if (same && start + matched == stop) {
                     return number;
@@ -1645,7 +1639,7 @@ public final class SkyMargins {
     /** The tree of exemplars: knot 0 is nobody, knot c + 1 the copy c. */
     private static final class Stemma {
         private static final int KNOTS = COPIES + 1;
-        private static final long FAR = Long.MAX_VALUE;
+        private static final long FAR = 1L << 62;
         private static final int NO_EDGE = -1;
         // 13 to the 12th: a row of exemplars is a number of 12 digits to the base 13.
         private static final long ROWS = 23298085122481L;

@@ -99,6 +99,9 @@ public final class TextTest {
         fault("weight 2place", 8);
         fault("weight \u00e9", 7);
         fault("weight weight", 7);
+        fault("weight placez", 7);
+        fault("weight aplace", 7);
+        fault("late if plac", 8);
     }
 
     private static String many(String part, int times) {
