@@ -59,6 +59,11 @@ public final class ChapterTest {
         due.is("a hundredth", 10000, x.read(0, 3));
         due.is("a millionth", 1, x.read(0, 7));
         due.is("less", 0, x.read(0, 8));
+        Due.use(x, "reads 90;notes 0");
+        int[] atLeast = {1000000, 900000, 810000, 729000, 656100, 590490, 531441, 478296, 430467, 387420, 348678, 313810};
+        for (int chapters = 1; chapters <= 12; chapters++) {
+            due.is("nine tenths", atLeast[chapters - 1], x.read(0, chapters));
+        }
         Due.use(x, "reads 1000;notes 0-5");
         due.is("nearest", 1000000, x.read(0, 12));
     }
