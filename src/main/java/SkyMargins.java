@@ -388,7 +388,8 @@ public final class SkyMargins {
     }
 
     public int families() {
-        return freshReadings().familiesOf(now, now.allCopies());
+        int all = now.allCopies();
+        return freshReadings().familiesOf(now, all, all);
     }
 
     public int family(int copy) {
@@ -404,8 +405,10 @@ public final class SkyMargins {
             return NOTHING;
         }
         int all = now.allCopies();
+        int others = all & ~(1 << copy);
         Readings notes = freshReadings();
-        return notes.familiesOf(now, all & ~(1 << copy)) - notes.familiesOf(now, all);
+        // Both times the families of the others: a copy that is a family by itself is none of theirs.
+        return notes.familiesOf(now, others, others) - notes.familiesOf(now, all, others);
     }
 
     public int times(int sample, int hand, int other) {
@@ -1588,15 +1591,16 @@ public final class SkyMargins {
             return sum;
         }
 
-        /** How many families some copies (a bit each) make among themselves. */
-        int familiesOf(Shelf shelf, int among) {
+        /** How many families some copies (a bit each) make among themselves that hold any of the members. */
+        int familiesOf(Shelf shelf, int among, int members) {
             findNear(shelf);
             int rest = among;
             int families = 0;
             for (int copy = 0; copy < COPIES; copy++) {
                 if ((rest >> copy & 1) == 1) {
-                    rest &= ~spread(copy, rest);
-                    families++;
+                    int family = spread(copy, rest);
+                    rest &= ~family;
+                    families += (family & members) != 0 ? 1 : 0;
                 }
             }
             return families;

@@ -6,6 +6,9 @@ public final class FamilyTest {
         agreeing();
         families();
         joining();
+        joiningNobody();
+        joiningWhatStaysTogether();
+        joiningByLine();
         nothingThere();
         due.close();
     }
@@ -54,21 +57,73 @@ public final class FamilyTest {
         due.is("below", -1, x.family(-1));
     }
 
+    /** Two copies that agree by 10 at a place of their own. */
+    private static void agree(SkyMargins x, int one, int other, int place) {
+        Due.write(x, one, place, 0);
+        Due.write(x, other, place, 0);
+    }
+
     private static void joining() {
         SkyMargins x = Due.withCopies(5);
         x.terms(3, 10);
         for (int copy = 1; copy < 4; copy++) {
-            Due.write(x, 0, copy, 0);
-            Due.write(x, copy, copy, 0);
+            agree(x, 0, copy, copy);
         }
         due.is("joins three", 2, x.joins(0));
         due.is("joins none", 0, x.joins(1));
-        due.is("a family by itself", -1, x.joins(4));
-        Due.write(x, 1, 9, 0);
-        Due.write(x, 2, 9, 0);
+        due.is("a family by itself", 0, x.joins(4));
+        agree(x, 1, 2, 9);
         due.is("two come together by themselves", 1, x.joins(0));
         due.is("no copy", -1000000, x.joins(5));
         due.is("below", -1000000, x.joins(-1));
+    }
+
+    private static void joiningNobody() {
+        SkyMargins x = Due.withCopies(12);
+        for (int copy = 0; copy < 12; copy++) {
+            due.is("all by themselves", 0, x.joins(copy));
+        }
+        due.is("as many families", 12, x.families());
+        x.terms(3, 10);
+        agree(x, 1, 2, 0);
+        agree(x, 5, 6, 1);
+        due.is("the lowest by itself beside families", 0, x.joins(0));
+        due.is("one between families by itself", 0, x.joins(4));
+        due.is("the highest by itself beside families", 0, x.joins(11));
+        due.is("one of two", 0, x.joins(1));
+        due.is("the other one of two", 0, x.joins(6));
+    }
+
+    private static void joiningWhatStaysTogether() {
+        SkyMargins x = Due.withCopies(7);
+        x.terms(3, 10);
+        agree(x, 0, 1, 0);
+        agree(x, 1, 2, 1);
+        agree(x, 2, 3, 2);
+        agree(x, 3, 0, 3);
+        for (int copy = 0; copy < 4; copy++) {
+            due.is("a ring stays together without one", 0, x.joins(copy));
+        }
+        agree(x, 3, 4, 4);
+        agree(x, 4, 5, 5);
+        due.is("two families of the others", 1, x.joins(4));
+        due.is("the ring's end of them", 1, x.joins(3));
+        due.is("the last of them", 0, x.joins(5));
+        due.is("by itself all the while", 0, x.joins(6));
+    }
+
+    private static void joiningByLine() {
+        SkyMargins x = Due.withCopies(3);
+        agree(x, 0, 1, 0);
+        agree(x, 1, 2, 1);
+        due.is("none is near", 0, x.joins(1));
+        x.terms(3, 10);
+        due.is("joins the two", 1, x.joins(1));
+        x.terms(3, 0);
+        due.is("all are near", 0, x.joins(1));
+        SkyMargins alone = Due.withCopies(1);
+        alone.terms(3, 0);
+        due.is("alone with line 0", 0, alone.joins(0));
     }
 
     private static void nothingThere() {
@@ -78,6 +133,7 @@ public final class FamilyTest {
         due.is("no joins", -1000000, x.joins(0));
         x.copy(0, 0);
         due.is("one family", 1, x.families());
-        due.is("one alone", -1, x.joins(0));
+        due.is("one alone", 0, x.joins(0));
+        due.is("one beyond", -1000000, x.joins(1));
     }
 }

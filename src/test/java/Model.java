@@ -584,7 +584,10 @@ public final class Model {
         }
         Set<Integer> others = all();
         others.remove(copy);
-        return distinct(families(others)) - families();
+        int[] with = families(all());
+        int[] without = families(others);
+        with[copy] = -1;
+        return distinct(without) - distinct(with);
     }
 
     private BigInteger[] likely(int sample, int hand) {
