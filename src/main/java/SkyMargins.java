@@ -751,7 +751,7 @@ public final class SkyMargins {
             }
             int row = rows;
             rows++;
-            // Going back to an image leaves old numbers behind the last row.
+            // Zeros, whatever cells an image brought along behind its last row.
             for (int column = 0; column < width; column++) {
                 put(row, column, 0);
             }

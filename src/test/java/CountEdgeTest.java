@@ -18,6 +18,7 @@ public final class CountEdgeTest {
         countRefusals();
         countRefusalsOfEachCall();
         countRefusalsIsNotKept();
+        countOfAllItsCalls();
         statusAheadOfAny();
         statusOfEachCall();
         statusOfOthers();
@@ -241,6 +242,15 @@ public final class CountEdgeTest {
         x.copy(8, 0);
         x.back(1);
         refusals("behind going back to as many", x, 2, 1, 1, 1, 1);
+    }
+
+    /** An object is used for at most 512 calls: the last ones tell as the first ones. */
+    private static void countOfAllItsCalls() {
+        SkyMargins x = new SkyMargins();
+        for (int call = 1; call <= 511; call++) {
+            x.back(call % 2);
+        }
+        due.is("the last of 512 calls", 511, x.count(9));
     }
 
     /** 0 ahead of any. */

@@ -29,6 +29,7 @@ public final class KeepEdgeTest {
         noteFirstOfTheRefusals();
         ofNumbers();
         ofShared();
+        ofSharedByManyWordings();
         termsNumbers();
         termsWhatItWas();
         due.close();
@@ -378,6 +379,33 @@ public final class KeepEdgeTest {
         int elsewhere = Due.write(x, 0, 58, 0);
         due.is("another wording", 1, x.of(other, 5));
         due.is("another place", 1, x.of(elsewhere, 5));
+    }
+
+    /** Many wordings at one place, and the same ones at another: each is shared by those that have just that one. */
+    private static void ofSharedByManyWordings() {
+        SkyMargins x = Due.withCopies(3);
+        int[] up = new int[150];
+        int[] down = new int[150];
+        for (int i = 0; i < 50; i++) {
+            int[] one = {i % 2 == 0 ? 30 : 31, 2 * i, 255};
+            System.arraycopy(one, 0, up, 3 * i, 3);
+            System.arraycopy(one, 0, down, 147 - 3 * i, 3);
+        }
+        Due.feed(x, up);
+        due.is("up", 50, x.row(0));
+        Due.feed(x, down);
+        due.is("down", 50, x.row(1));
+        for (int i = 0; i < 50; i += 5) {
+            Due.write(x, 2, 30, 2 * i);
+        }
+        for (int note = 0; note < 110; note++) {
+            int i = x.of(note, 2) / 2;
+            int want = note < 100 ? (i % 10 == 0 ? 3 : 2) : i % 2 == 0 ? 3 : 1;
+            due.is("shared " + note, want, x.of(note, 5));
+        }
+        due.is("the first two agree in all", 500, x.agree(0, 1));
+        due.is("the third in every tenth", 50, x.agree(0, 2));
+        due.is("costs nothing", 0, x.cost(0, 1));
     }
 
     /** TERMS: 0 ADD 1 .. 9, 1 LEAVE 0 .. 9, 2 OWN 1 .. 9, 3 LINE 0 .. 1000; -1. */

@@ -29,6 +29,7 @@ public final class TextEdgeTest {
         weightAskedOf();
         noteAskedOf();
         placeAskedOf();
+        askedAnew();
         cutTowardsZero();
         beyondABillion();
         dividedByZero();
@@ -473,6 +474,36 @@ public final class TextEdgeTest {
         int ahead = Due.text(x, "struck if chapter=10");
         due.is("the chapter ahead", 1, x.censor(7, ahead, 4));
         due.is("of five places some", 1, x.censor(7, ahead, 2));
+    }
+
+    /** What a text is not asked of is 0, whatever was asked ahead. */
+    private static void askedAnew() {
+        SkyMargins x = new SkyMargins();
+        x.copy(7, 63);
+        x.look(0, 1);
+        x.hand(0, 400);
+        x.hand(0, 400);
+        x.note(0, 59, 99, 1, 0);
+        x.note(0, 59, 0, 1, 3);
+        int text = Due.text(x, "weight 77 if land+lists+looked+hand+kind=0;late if place*wording*shared*land*hand*lists*looked>0"
+            + " or kind=3;struck if wording+shared+land+hand+kind+lists+looked=0;reads 100;notes 100*chapter/11;"
+            + "notes 50 if place+wording+shared+hand+kind>0");
+        x.use(text);
+        for (int round = 0; round < 3; round++) {
+            due.is("a note", 2, x.late(text, -1));
+            due.is("a wording behind a note", 77, x.weight(59, 99));
+            due.is("a place behind a wording", 1, x.censor(7, text, 5));
+            due.is("a note behind a place", 2, x.late(text, 0));
+            due.is("a place behind a note", 1, x.censor(7, text, 5));
+            due.is("a chapter behind a place", 1000000, x.read(0, 12));
+            due.is("a wording behind a chapter", 77, x.weight(0, 0));
+            x.late(text, 0);
+            due.is("a chapter behind a note", 1000000, x.read(0, 12));
+            x.look(0, 1);
+            x.terms(0, 3);
+            x.late(text, 0);
+            due.is("all weights anew behind a note", 154, x.tree());
+        }
     }
 
     /** / is cut towards 0. */
